@@ -184,6 +184,7 @@ public final class PromisesTest {
         check.due("beside the full cell", x.stand(5, 4, 0), 1);
         check.due("on it", x.stand(4, 4, 0), -3);
         x.keep(1);
+        check.due("beside the full cell, no more", x.stand(5, 4, 0), -3);
         x.cell(4, 4, false);
         check.due("full no more", x.stand(4, 4, 0), 1);
     }
@@ -230,6 +231,7 @@ public final class PromisesTest {
         check.due("the last row", x.space(1, 9), 2);
         dueGoal(x, 5, 3);
         check.due("any other side", x.space(-7, 1), 2);
+        dueGoal(x, 5, 3);
         check.due("two cells: the goal is the first", x.space(0, 2), 3);
         dueGoal(x, 2, 0);
         check.due("ten in the last row", x.space(1, 10), 0);
@@ -390,17 +392,20 @@ public final class PromisesTest {
             x.car(1, 1, 2);
             fromTo(x, place(4, 4, 0), place(arc[1], arc[2], arc[3]));
             dueWay(x, arc[0]);
-            // Each place of the arc bars it: the first, those before the turn, the turn, those behind it.
+            // Each place of the arc bars it: those before the turn, the turn, those behind it, the first.
             int signX = arc[1] > 4 ? 1 : -1;
             int signY = arc[2] > 4 ? 1 : -1;
-            int[][] on = {{4, 4}, {4 + signX, 4}, {4 + 2 * signX, 4}, {arc[1], 4 + signY}};
+            int[][] on = {{4 + signX, 4}, {4 + 2 * signX, 4}, {arc[1], 4 + signY}};
             for (int[] cell : on) {
                 x.cell(cell[0], cell[1], true);
-                check.due("barred: not this arc", x.way(ALL) != 1, true);
+                // Round the square the other way: the arc that undoes this one, three times.
+                dueWay(x, 7 - arc[0], 7 - arc[0], 7 - arc[0]);
                 x.cell(cell[0], cell[1], false);
             }
             x.cell(4 + signX, 4 + signY, true);
             dueWay(x, arc[0]);
+            x.cell(4, 4, true);
+            check.due("the first place is barred", x.way(ALL), 0);
         }
         // The place of the turn with either heading: a long car does not get round in a lane of one cell.
         ParkWays lane = new ParkWays(9, 9, 4);
@@ -408,10 +413,18 @@ public final class PromisesTest {
         fromTo(lane, place(4, 4, 0), place(6, 6, 2));
         dueWay(lane, 2);
         lane.cell(7, 4, true);
-        check.due("the turn with the heading before", lane.way(ALL) != 1, true);
+        // The turn with the heading before: it would reach to (7, 4).
+        dueWay(lane, 4, 0, 3, 2, 1);
         lane.cell(7, 4, false);
         lane.cell(6, 3, true);
-        check.due("the turn with the heading behind", lane.way(ALL) != 1, true);
+        // The turn with the heading behind: it would reach to (6, 3).
+        dueWay(lane, 4, 0, 3, 2, 1);
+        lane.cell(6, 3, false);
+        lane.cell(6, 7, true);
+        check.due("the last place", lane.way(ALL), 0);
+        lane.cell(6, 7, false);
+        lane.cell(3, 4, true);
+        check.due("the first place", lane.way(ALL), 0);
     }
 
     private void exact() {
@@ -461,11 +474,11 @@ public final class PromisesTest {
         // Where the car is shows in change(): behind it a cell may be full, before it not.
         check.due("full behind the car", x.change(1, 0, true), 0);
         x.release(false);
-        check.due("nobody holds on", x.follow(4, 1.0), 2);
+        check.due("nobody holds on", x.follow(4, 0.25), 2);
         check.due("refusals go before that", x.follow(0, 1.0), -2);
-        check.due("it made none", x.change(1, 0, true), 0);
+        check.dueDouble("it made none", x.error(), 0.0);
         x.release(true);
-        check.due("three", x.follow(3, 0.0), 1);
+        check.due("three, so that one is left", x.follow(3, 0.0), 1);
         check.due("full where it went", x.change(4, 0, true), 0);
         check.due("all that are left", x.follow(1000, 0.0), 1);
         check.due("none are left", x.follow(1, 0.0), 1);
@@ -491,9 +504,9 @@ public final class PromisesTest {
         check.dueDouble("-0.5 is not below -0.5", x.error(), -0.5);
         x.follow(1, -0.25);
         check.dueDouble("-0.75 is: 1.0 more", x.error(), 0.25);
-        x.follow(1, 1.0);
+        check.due("the greatest slip", x.follow(1, 1.0), 1);
         check.dueDouble("1.25, 1.0 less", x.error(), 0.25);
-        x.follow(1, -1.0);
+        check.due("the least slip", x.follow(1, -1.0), 1);
         check.dueDouble("-0.75, 1.0 more", x.error(), 0.25);
         x.follow(3, 0.1);
         check.dueDouble("each move adds", x.error(), 0.25 + 0.1 + 0.1 + 0.1 - 1.0);
@@ -628,7 +641,11 @@ public final class PromisesTest {
         y.cell(8, 0, true);
         y.way(ALL);
         // At (3, 1) it covers x 2 to 5, y 1 to 2.
-        check.due("from the nearest of its cells", y.margin(0), 3);
+        check.due("from the nearest of its cells, in x", y.margin(0), 3);
+        y.cell(8, 0, false);
+        y.cell(3, 5, true);
+        y.way(ALL);
+        check.due("from the nearest of its cells, in y", y.margin(0), 3);
     }
 
     private void heading() {
