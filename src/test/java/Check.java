@@ -26,6 +26,15 @@ final class Check {
         }
     }
 
+    /** A search with steps enough finds these MOVES, and no others behind them. */
+    void dueWay(ParkWays x, int... moves) {
+        due("way(ALL)", x.way(Scene.ALL), moves.length);
+        for (int i = 0; i < moves.length; i++) {
+            due("move(" + i + ", 0)", x.move(i, 0), moves[i]);
+        }
+        due("move(behind the last, 0)", x.move(moves.length, 0), -1);
+    }
+
     /** A call that throws as the document says: out of the program's own hand, not the machine's. */
     void dueThrow(String call, Runnable calling) {
         asked++;

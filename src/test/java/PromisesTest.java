@@ -1,6 +1,6 @@
 /** For each promise of the document, answers found by hand: ordinary inputs, edges and wrong inputs. */
 public final class PromisesTest {
-    private static final long ALL = 1000000L;
+    private static final long ALL = Scene.ALL;
 
     private final Check check = new Check();
 
@@ -29,26 +29,6 @@ public final class PromisesTest {
         test.margin();
         test.heading();
         test.check.end("PromisesTest");
-    }
-
-    /** A field with its GOAL at one PLACE and THE CAR, of one cell, at another. */
-    private static ParkWays fromTo(ParkWays x, int[] from, int[] to) {
-        x.stand(to[0], to[1], to[2]);
-        x.out();
-        x.stand(from[0], from[1], from[2]);
-        return x;
-    }
-
-    private static int[] place(int x, int y, int heading) {
-        return new int[] {x, y, heading};
-    }
-
-    private void dueWay(ParkWays x, int... moves) {
-        check.due("way(ALL)", x.way(ALL), moves.length);
-        for (int i = 0; i < moves.length; i++) {
-            check.due("move(" + i + ", 0)", x.move(i, 0), moves[i]);
-        }
-        check.due("move(behind the last, 0)", x.move(moves.length, 0), -1);
     }
 
     private void dueSides(ParkWays x, int width, int height) {
@@ -279,21 +259,21 @@ public final class PromisesTest {
         ParkWays x = new ParkWays(8, 1, 8);
         check.due("none needed", x.way(ALL), 0);
         check.due("it is a way", x.follow(1, 0.0), 1);
-        fromTo(x, place(5, 0, 0), place(0, 0, 0));
-        dueWay(x, 1, 1, 1, 1, 1);
+        Scene.fromTo(x, Scene.place(5, 0, 0), Scene.place(0, 0, 0));
+        check.dueWay(x, 1, 1, 1, 1, 1);
         check.due("steps below 0", x.way(-1), -2);
         check.due("far below", x.way(Long.MIN_VALUE), -2);
         check.due("a refusal leaves the way", x.move(4, 0), 1);
-        fromTo(x, place(0, 0, 0), place(3, 0, 0));
-        dueWay(x, 0, 0, 0);
+        Scene.fromTo(x, Scene.place(0, 0, 0), Scene.place(3, 0, 0));
+        check.dueWay(x, 0, 0, 0);
         x.cell(2, 0, true);
         check.due("no way", x.way(ALL), 0);
         check.due("there is none", x.follow(1, 0.0), 0);
         check.due("most steps", x.way(Long.MAX_VALUE), 0);
         // The heading may not be turned in one row.
-        dueWay(fromTo(new ParkWays(8, 1, 4), place(0, 0, 0), place(3, 0, 4)));
+        check.dueWay(Scene.fromTo(new ParkWays(8, 1, 4), Scene.place(0, 0, 0), Scene.place(3, 0, 4)));
         // A place that is full now is not left: its first place is not free.
-        ParkWays y = fromTo(new ParkWays(8, 1, 8), place(0, 0, 0), place(3, 0, 0));
+        ParkWays y = Scene.fromTo(new ParkWays(8, 1, 8), Scene.place(0, 0, 0), Scene.place(3, 0, 0));
         y.cell(0, 0, true);
         check.due("from a full cell", y.way(ALL), 0);
         check.due("no way", y.follow(1, 0.0), 0);
@@ -302,7 +282,7 @@ public final class PromisesTest {
     private void waySpent() {
         check.begin("promise 8, spent");
         // In one row of 8 from (5, 0, 0) to (2, 0, 0): taken are x = 2, 1, 3, 0, 4, 5, 6, 7.
-        ParkWays x = fromTo(new ParkWays(8, 1, 8), place(5, 0, 0), place(2, 0, 0));
+        ParkWays x = Scene.fromTo(new ParkWays(8, 1, 8), Scene.place(5, 0, 0), Scene.place(2, 0, 0));
         check.due("5 steps", x.way(5), -1);
         check.due("no way then", x.follow(1, 0.0), 0);
         check.due("6 steps", x.way(6), 3);
@@ -318,12 +298,12 @@ public final class PromisesTest {
         check.due("not there, and no more", x.way(8), 0);
         check.due("exact", x.exact(), true);
         // Equal ways: by x within a row, then a lesser y before a greater one.
-        fromTo(x, place(1, 0, 0), place(2, 0, 0));
+        Scene.fromTo(x, Scene.place(1, 0, 0), Scene.place(2, 0, 0));
         check.due("the lesser x is the second", x.way(2), 1);
         x.stand(3, 0, 0);
         check.due("the greater x is not", x.way(2), -1);
         check.due("it is the third", x.way(3), 1);
-        ParkWays column = fromTo(new ParkWays(1, 5, 4), place(0, 3, 2), place(0, 2, 2));
+        ParkWays column = Scene.fromTo(new ParkWays(1, 5, 4), Scene.place(0, 3, 2), Scene.place(0, 2, 2));
         check.due("the greater y is the third", column.way(2), -1);
         check.due("y, third", column.way(3), 1);
     }
@@ -345,18 +325,18 @@ public final class PromisesTest {
     private void wayAmongEquals() {
         check.begin("the way among others");
         // From heading 0 to 1, two on, one down: one arc of radius 1.
-        dueWay(fromTo(new ParkWays(6, 6, 8), place(1, 1, 0), place(3, 2, 1)), 2);
-        // Step 0 before the arc, or behind it? The first move of the least number goes first.
-        dueWay(fromTo(new ParkWays(8, 8, 4), place(1, 1, 0), place(3, 2, 2)), 0, 2);
+        check.dueWay(Scene.fromTo(new ParkWays(6, 6, 8), Scene.place(1, 1, 0), Scene.place(3, 2, 1)), 2);
+        // A step, then the arc: the other way round they lead elsewhere.
+        check.dueWay(Scene.fromTo(new ParkWays(8, 8, 4), Scene.place(1, 1, 0), Scene.place(3, 2, 2)), 0, 2);
         // Two steps, or two arcs by way of another heading: the lesser sum of lengths.
-        dueWay(fromTo(new ParkWays(9, 9, 8), place(4, 4, 0), place(6, 4, 0)), 0, 0);
+        check.dueWay(Scene.fromTo(new ParkWays(9, 9, 8), Scene.place(4, 4, 0), Scene.place(6, 4, 0)), 0, 0);
         // Turned about on the spot: two arcs end two cells off, so there are two steps, too, best at first.
-        dueWay(fromTo(new ParkWays(9, 9, 4), place(4, 4, 0), place(4, 4, 4)), 0, 0, 4, 2);
+        check.dueWay(Scene.fromTo(new ParkWays(9, 9, 4), Scene.place(4, 4, 0), Scene.place(4, 4, 4)), 0, 0, 4, 2);
     }
 
     private void move() {
         check.begin("promise 9");
-        ParkWays x = fromTo(new ParkWays(8, 8, 4), place(1, 1, 0), place(3, 2, 2));
+        ParkWays x = Scene.fromTo(new ParkWays(8, 8, 4), Scene.place(1, 1, 0), Scene.place(3, 2, 2));
         check.due("before a search", x.move(0, 0), -1);
         x.way(ALL);
         check.due("number", x.move(1, 0), 2);
@@ -383,15 +363,15 @@ public final class PromisesTest {
         for (int[] arc : arcs) {
             ParkWays x = new ParkWays(9, 9, 8);
             x.car(1, 1, 2);
-            fromTo(x, place(4, 4, 0), place(arc[1], arc[2], arc[3]));
-            dueWay(x, arc[0]);
+            Scene.fromTo(x, Scene.place(4, 4, 0), Scene.place(arc[1], arc[2], arc[3]));
+            check.dueWay(x, arc[0]);
         }
         int[][] square = {{2, 6, 6, 2}, {3, 6, 2, 6}, {4, 2, 2, 2}, {5, 2, 6, 6}};
         for (int[] arc : square) {
             ParkWays x = new ParkWays(9, 9, 4);
             x.car(1, 1, 2);
-            fromTo(x, place(4, 4, 0), place(arc[1], arc[2], arc[3]));
-            dueWay(x, arc[0]);
+            Scene.fromTo(x, Scene.place(4, 4, 0), Scene.place(arc[1], arc[2], arc[3]));
+            check.dueWay(x, arc[0]);
             // Each place of the arc bars it: those before the turn, the turn, those behind it, the first.
             int signX = arc[1] > 4 ? 1 : -1;
             int signY = arc[2] > 4 ? 1 : -1;
@@ -399,26 +379,26 @@ public final class PromisesTest {
             for (int[] cell : on) {
                 x.cell(cell[0], cell[1], true);
                 // Round the square the other way: the arc that undoes this one, three times.
-                dueWay(x, 7 - arc[0], 7 - arc[0], 7 - arc[0]);
+                check.dueWay(x, 7 - arc[0], 7 - arc[0], 7 - arc[0]);
                 x.cell(cell[0], cell[1], false);
             }
             x.cell(4 + signX, 4 + signY, true);
-            dueWay(x, arc[0]);
+            check.dueWay(x, arc[0]);
             x.cell(4, 4, true);
             check.due("the first place is barred", x.way(ALL), 0);
         }
         // The place of the turn with either heading: a long car does not get round in a lane of one cell.
         ParkWays lane = new ParkWays(9, 9, 4);
         lane.car(3, 1, 2);
-        fromTo(lane, place(4, 4, 0), place(6, 6, 2));
-        dueWay(lane, 2);
+        Scene.fromTo(lane, Scene.place(4, 4, 0), Scene.place(6, 6, 2));
+        check.dueWay(lane, 2);
         lane.cell(7, 4, true);
         // The turn with the heading before: it would reach to (7, 4).
-        dueWay(lane, 4, 0, 3, 2, 1);
+        check.dueWay(lane, 4, 0, 3, 2, 1);
         lane.cell(7, 4, false);
         lane.cell(6, 3, true);
         // The turn with the heading behind: it would reach to (6, 3).
-        dueWay(lane, 4, 0, 3, 2, 1);
+        check.dueWay(lane, 4, 0, 3, 2, 1);
         lane.cell(6, 3, false);
         lane.cell(6, 7, true);
         check.due("the last place", lane.way(ALL), 0);
@@ -445,7 +425,7 @@ public final class PromisesTest {
         x.way(ALL);
         check.due("none, but not spent", x.exact(), true);
         // Two steps back; with the cell between them full, only longer ways are left.
-        ParkWays y = fromTo(new ParkWays(7, 5, 8), place(4, 1, 0), place(2, 1, 0));
+        ParkWays y = Scene.fromTo(new ParkWays(7, 5, 8), Scene.place(4, 1, 0), Scene.place(2, 1, 0));
         long steps = 0;
         while (steps < 100 && y.way(steps) < 0) {
             steps++;
@@ -461,7 +441,7 @@ public final class PromisesTest {
         ParkWays x = new ParkWays(8, 1, 8);
         check.due("no way", x.follow(1, 0.0), 0);
         check.due("n is 0, without a way", x.follow(0, 0.0), -2);
-        fromTo(x, place(0, 0, 0), place(6, 0, 0));
+        Scene.fromTo(x, Scene.place(0, 0, 0), Scene.place(6, 0, 0));
         x.way(ALL);
         check.due("n is 1001", x.follow(1001, 0.0), -2);
         check.due("n is far below", x.follow(Integer.MIN_VALUE, 0.0), -2);
@@ -494,7 +474,7 @@ public final class PromisesTest {
         check.begin("promise 12");
         ParkWays x = new ParkWays(20, 1, 8);
         check.dueDouble("at first", x.error(), 0.0);
-        fromTo(x, place(0, 0, 0), place(19, 0, 0));
+        Scene.fromTo(x, Scene.place(0, 0, 0), Scene.place(19, 0, 0));
         x.way(ALL);
         x.follow(2, 0.25);
         check.dueDouble("0.5 is not above 0.5", x.error(), 0.5);
@@ -528,7 +508,7 @@ public final class PromisesTest {
         check.dueThrow("y too great", () -> x.change(0, 1, false));
         check.dueThrow("y below 0", () -> x.change(0, -1, false));
         check.dueThrow("far off", () -> x.change(Integer.MIN_VALUE, Integer.MAX_VALUE, false));
-        fromTo(x, place(0, 0, 0), place(5, 0, 0));
+        Scene.fromTo(x, Scene.place(0, 0, 0), Scene.place(5, 0, 0));
         x.way(ALL);
         check.due("full beside the way", x.change(6, 0, true), 0);
         check.dueThrow("no such cell", () -> x.change(8, 0, true));
@@ -543,7 +523,7 @@ public final class PromisesTest {
         check.due("from where the car is", x.way(ALL), 3);
         check.due("the car's own cell", x.change(2, 0, true), 2);
         // All moves made: nothing of the way is left that could be barred.
-        ParkWays y = fromTo(new ParkWays(8, 1, 8), place(0, 0, 0), place(2, 0, 0));
+        ParkWays y = Scene.fromTo(new ParkWays(8, 1, 8), Scene.place(0, 0, 0), Scene.place(2, 0, 0));
         y.way(ALL);
         y.follow(9, 0.0);
         check.due("full below the car at the goal", y.change(2, 0, true), 0);
@@ -552,7 +532,7 @@ public final class PromisesTest {
 
     private void changePlansAnew() {
         check.begin("promise 13, planned anew");
-        ParkWays x = fromTo(new ParkWays(8, 3, 8), place(0, 1, 0), place(6, 1, 0));
+        ParkWays x = Scene.fromTo(new ParkWays(8, 3, 8), Scene.place(0, 1, 0), Scene.place(6, 1, 0));
         x.way(ALL);
         x.follow(1, 0.0);
         check.due("round the full cell", x.change(4, 1, true), 1);
@@ -570,13 +550,13 @@ public final class PromisesTest {
         // A shorter way that opens is not looked for.
         ParkWays y = new ParkWays(9, 7, 4);
         y.cell(4, 3, true);
-        fromTo(y, place(0, 3, 0), place(8, 3, 0));
+        Scene.fromTo(y, Scene.place(0, 3, 0), Scene.place(8, 3, 0));
         check.due("round it", hasArcs(y, y.way(ALL)), true);
         check.due("a way that opens", y.change(4, 3, false), 0);
         check.due("the way stays", hasArcs(y, 8), true);
-        dueWay(y, 0, 0, 0, 0, 0, 0, 0, 0);
+        check.dueWay(y, 0, 0, 0, 0, 0, 0, 0, 0);
         // As many steps as before: what was enough for the straight way is not for the one round.
-        ParkWays few = fromTo(new ParkWays(9, 7, 4), place(4, 3, 0), place(2, 3, 0));
+        ParkWays few = Scene.fromTo(new ParkWays(9, 7, 4), Scene.place(4, 3, 0), Scene.place(2, 3, 0));
         int steps = 0;
         while (few.way(steps) < 0 && steps < 500) {
             steps++;
@@ -603,7 +583,7 @@ public final class PromisesTest {
         check.due("held at first", x.release(true), 0);
         check.due("let go", x.release(false), 1);
         check.due("let go already", x.release(false), 0);
-        fromTo(x, place(0, 0, 0), place(2, 0, 0));
+        Scene.fromTo(x, Scene.place(0, 0, 0), Scene.place(2, 0, 0));
         x.way(ALL);
         check.due("stops", x.follow(1, 0.0), 2);
         check.due("hold on", x.release(true), 1);
@@ -612,7 +592,7 @@ public final class PromisesTest {
 
     private void margin() {
         check.begin("promise 15");
-        ParkWays x = fromTo(new ParkWays(24, 24, 8), place(0, 0, 0), place(3, 0, 0));
+        ParkWays x = Scene.fromTo(new ParkWays(24, 24, 8), Scene.place(0, 0, 0), Scene.place(3, 0, 0));
         check.due("before a search", x.margin(0), -1);
         x.way(ALL);
         check.due("without a full cell", x.margin(0), 9);
@@ -630,14 +610,14 @@ public final class PromisesTest {
         check.due("the greater of both: x", x.margin(0), 3);
         x.follow(1, 0.0);
         check.due("full behind the car", x.change(1, 0, true), 2);
-        fromTo(x, place(5, 0, 0), place(8, 0, 0));
+        Scene.fromTo(x, Scene.place(5, 0, 0), Scene.place(8, 0, 0));
         x.way(ALL);
         x.follow(2, 0.0);
         check.due("full where the car was", x.change(6, 0, true), 0);
         check.due("0 there", x.margin(0), 0);
         ParkWays y = new ParkWays(12, 6, 8);
         y.car(4, 2, 1);
-        fromTo(y, place(2, 1, 0), place(3, 1, 0));
+        Scene.fromTo(y, Scene.place(2, 1, 0), Scene.place(3, 1, 0));
         y.cell(8, 0, true);
         y.way(ALL);
         // At (3, 1) it covers x 2 to 5, y 1 to 2.
