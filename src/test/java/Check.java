@@ -26,6 +26,13 @@ final class Check {
         }
     }
 
+    void dueText(String call, String got, String want) {
+        asked++;
+        if (!got.equals(want)) {
+            tell(call + " answered " + got + ", due is " + want);
+        }
+    }
+
     /** A search with steps enough finds these MOVES, and no others behind them. */
     void dueWay(ParkWays x, int... moves) {
         due("way(ALL)", x.way(Scene.ALL), moves.length);
